@@ -28,7 +28,7 @@ public final class TwoChoices {
     private static final int TRIED_SLOTS = 9;
     private static final int TRIED_SEEDS = 40;
 
-    /** Places in the buckets: of a map 16 times 4, of a trial by least() 16 times 9 or 32 times 4. */
+    /** Places in all buckets: of a map 16 times 4, of a trial 16 times 9 or 32 times 4. */
     private static final int MAP_ROOM = 64;
     private static final int TRIAL_ROOM = 144;
     private static final int MOST_ENTRIES = MAP_ROOM + MOST_STASH;
@@ -266,16 +266,7 @@ public final class TwoChoices {
     }
 
     public int least(int what) {
-        switch (what) {
-            case 0:
-                return arranger.leastBuckets(world.table);
-            case 1:
-                return arranger.leastSlots(world.table);
-            case 2:
-                return arranger.leastSeed(world.table);
-            default:
-                return NONE;
-        }
+        return arranger.leastOf(world.table, what);
     }
 
     public int key(int k, boolean born) {
@@ -542,8 +533,8 @@ public final class TwoChoices {
     }
 
     /**
-     * The map's settings, entries and tallies. The places of all buckets stand in one row, bucket by
-     * bucket, the stash's from the index room on, and behind it one that is in hand.
+     * The map's settings, entries and tallies. The places of all buckets stand in one row, bucket
+     * by bucket, the stash's from the index room on, and behind it one that is in hand.
      */
     private static final class Table {
         final Settings set = new Settings();
@@ -835,16 +826,18 @@ public final class TwoChoices {
          * FIRST and SECOND are seen from the start, as if they had no empty place.
          */
         boolean seek(Table table, int first, int second) {
-            Arrays.fill(seen, false);
-            begin(first, second);
+            begin(table.set.buckets, first, second);
             int slots = table.set.slots;
             for (int head = 0; head < lined && head < TRIED_BUCKETS; head++) {
                 int bucket = line[head];
                 int start = bucket * slots;
                 for (int i = start; i < start + slots; i++) {
+                    if (table.keys[i] < 0) {
+                        continue;
+                    }
                     int one = table.firsts[i];
                     int other = one == bucket ? table.seconds[i] : one;
-                    if (table.keys[i] < 0 || seen[other]) {
+                    if (seen[other]) {
                         continue;
                     }
                     seen[other] = true;
@@ -861,7 +854,10 @@ public final class TwoChoices {
             return false;
         }
 
-        private void begin(int first, int second) {
+        private void begin(int buckets, int first, int second) {
+            for (int b = 0; b < buckets && b < TRIED_BUCKETS; b++) {
+                seen[b] = false;
+            }
             length = 0;
             target = NONE;
             line[0] = first;
@@ -900,7 +896,7 @@ public final class TwoChoices {
             chain = search;
         }
 
-        /** The entry in hand comes in by (a) to (c): which of them, 0 if by none; then it stays in hand. */
+        /** The one in hand comes in by (a) to (c): by which; 0 if by none, and it stays in hand. */
         int comeIn(Table table) {
             int hand = table.hand;
             Settings set = table.set;
@@ -969,7 +965,7 @@ public final class TwoChoices {
             return false;
         }
 
-        /** Those of the stash that can leave it, one by one, by chains too if told: how many did. */
+        /** Those of the stash that can, by chains too if told, leave it in order: how many did. */
         int emptyStash(Table table, boolean byChains) {
             int left = 0;
             int stay = 0;
@@ -1185,10 +1181,10 @@ public final class TwoChoices {
 
         void peelOff(Table table) {
             gather(table, false);
-            Arrays.fill(gone, false);
             Arrays.fill(degrees, 0);
             peeled = 0;
             for (int k = 0; k < all; k++) {
+                gone[k] = false;
                 addDegrees(table, order[k], 1);
             }
             int buckets = table.set.buckets;
@@ -1292,7 +1288,10 @@ public final class TwoChoices {
 
         /** 0 for a tree, 1 for a ring, 2 for a tangled one. */
         int kindOf(int label) {
-            return 1 + Integer.compare(members[label], sizes[label]);
+            if (members[label] < sizes[label]) {
+                return 0;
+            }
+            return members[label] == sizes[label] ? 1 : 2;
         }
 
         int tangled(int buckets) {
@@ -1305,8 +1304,8 @@ public final class TwoChoices {
     }
 
     /**
-     * Whether entries could be arranged: they are laid into a trial table by chains of any length. One
-     * that no chain helps could never come in, whatever follows, so that those left out are fewest.
+     * Whether entries could be arranged: they are laid into a trial table by chains of any length.
+     * One that no chain helps could never come in, whatever follows: so those left out are fewest.
      */
     private static final class Arranger {
         private final Mover mover;
@@ -1324,7 +1323,7 @@ public final class TwoChoices {
             return leftOut(table, further, 1) == 0;
         }
 
-        /** How many of a table's keys and a further one (or NONE) can't be; it stops at enough of them. */
+        /** How many of a table's keys and a further one (or NONE) can't be, counted till enough. */
         int leftOut(Table table, int further, int enough) {
             trial.clear();
             int left = further >= 0 ? layKey(further) : 0;
@@ -1349,38 +1348,41 @@ public final class TwoChoices {
             return 1;
         }
 
-        int leastBuckets(Table table) {
+        /** The least number by which all fit: 0 of buckets, 1 of slots, 2 as a seed of hashes. */
+        int leastOf(Table table, int what) {
             takeSettings(table);
-            for (int buckets = 1; buckets <= TRIED_BUCKETS; buckets++) {
-                trial.set.buckets = buckets;
+            int most = mostOf(what);
+            for (int n = 1; n <= most; n++) {
+                change(what, n);
                 if (allFit(table, NONE)) {
-                    return buckets;
+                    return n;
                 }
             }
             return NONE;
         }
 
-        int leastSlots(Table table) {
-            takeSettings(table);
-            for (int slots = 1; slots <= TRIED_SLOTS; slots++) {
-                trial.set.slots = slots;
-                if (allFit(table, NONE)) {
-                    return slots;
-                }
+        private static int mostOf(int what) {
+            switch (what) {
+                case 0:
+                    return TRIED_BUCKETS;
+                case 1:
+                    return TRIED_SLOTS;
+                case 2:
+                    return TRIED_SEEDS;
+                default:
+                    return 0;
             }
-            return NONE;
         }
 
-        int leastSeed(Table table) {
-            takeSettings(table);
-            for (int seed = 1; seed <= TRIED_SEEDS; seed++) {
-                trial.set.draws.seed = seed;
+        private void change(int what, int n) {
+            if (what == 0) {
+                trial.set.buckets = n;
+            } else if (what == 1) {
+                trial.set.slots = n;
+            } else {
+                trial.set.draws.seed = n;
                 trial.set.drawHashes();
-                if (allFit(table, NONE)) {
-                    return seed;
-                }
             }
-            return NONE;
         }
     }
 
@@ -1450,7 +1452,7 @@ public final class TwoChoices {
             bytes = tape;
         }
 
-        /** Takes the settings and entries of the first bytes: false if there is a fault of 1 to 3. */
+        /** Takes settings and entries from the first bytes: false if there is a fault of 1 to 3. */
         boolean read(int many) {
             length = Math.min(many, bytes.length);
             fault = 0;

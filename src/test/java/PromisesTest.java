@@ -41,6 +41,7 @@ public final class PromisesTest {
         test.parts();
         test.arranged();
         test.leasts();
+        test.mostEntries();
         test.keys();
         test.counts();
         test.filledOnes();
@@ -169,6 +170,14 @@ public final class PromisesTest {
         fault("none;", 1, 0);
         fault("has 1;", 1, 5);
         fault("one 1 2 3;", 1, 8);
+        fault("has 1;x", 1, 5);
+        fault("has;x", 1, 3);
+        fault("one 1;x", 1, 5);
+        fault("two;x", 1, 3);
+        fault("slots;x", 1, 5);
+        fault("kick;x", 1, 4);
+        fault("slotsz 2;", 1, 0);
+        fault("slotsX 2;", 1, 5);
         fault("kick walks;", 1, 5);
         fault("kick test;", 1, 5);
         fault("full none;", 1, 5);
@@ -806,10 +815,48 @@ public final class PromisesTest {
         due("22: buckets that are no divisors", map.least(0), 3);
         map = new TwoChoices();
         due("22: an empty map", map.least(0) + 10 * map.least(1) + 100 * map.least(2), 111);
-        // Keys 0 and 1 times 1 .. 32 all in one: only by FIRST of the same number modulo 1009.
-        map = Tapes.mapOf("buckets 16;slots 1;stash 4;one 1 0;two 1 0;has 0 0;has 31 0;has 62 0;has 961 0;"
-                + "has 930 0;");
-        due("22: 32 at most", map.least(0) <= 32, true);
+        String text = "buckets 16;stash 4;" + SAME;
+        int[] apartBy32 = {975, 101, 408, 665, 740, 191, 854, 3, 91, 437, 626, 977};
+        due("22: 32 at most", mapWith(text, apartBy32).least(0), 32);
+        int[] apartLater = {108, 152, 395, 628, 927, 719, 206, 171, 533, 263, 426, 761, 909};
+        due("22: not by 32", mapWith(text, apartLater).least(0), NONE);
+        int[] seed40 = {59, 13, 20, 34, 31, 2, 5, 32, 21};
+        due("22: 40 at most", mapWith("buckets 9;slots 1;stash 4;kick none;", seed40).least(2), 40);
+    }
+
+    private TwoChoices mapWith(String text, int[] keys) {
+        TwoChoices with = Tapes.mapOf(text);
+        for (int key : keys) {
+            with.put(key, 0);
+        }
+        due("all " + keys.length + " are there", with.count(0), keys.length);
+        return with;
+    }
+
+    /** As many entries as there may ever be: 16 times 4 and 4 in the stash. */
+    private void mostEntries() {
+        TwoChoices map = Tapes.mapOf("buckets 16;slots 4;stash 4;depth 16;full test;");
+        int sum = 0;
+        for (int key = 0; key < 1000 && map.count(0) < 68; key++) {
+            sum += map.put(key, key % 7) > 0 ? 1 : 0;
+        }
+        due("6: 68 entries", sum, 68);
+        due("24: entries", map.count(0), 68);
+        due("24: in the stash", map.count(4), 4);
+        due("24: no empty places", map.count(5), 0);
+        due("25: all are full", map.filled(4), 16);
+        int last = map.key(67, false);
+        due("23: the last key", last >= 67 && map.find(last, 3) > 0, true);
+        due("23: the last born", map.find(map.key(67, true), 0) >= 0, true);
+        due("23: no further one", map.key(68, true), NONE);
+        due("21: 4 at least", map.over() >= 4, true);
+        due("6: no more", map.put(999, 0), NONE);
+        for (int k = 0; k < 68; k++) {
+            int key = map.key(k, false);
+            due("7: each has its value", map.get(key), key % 7);
+        }
+        map.image(1);
+        due("30: all are in the image", map.drop(last) == last % 7 && map.lost(1) == 1, true);
     }
 
     // Promise 23
@@ -855,6 +902,10 @@ public final class PromisesTest {
         due("24: moved in all", map.count(18), 2);
         due("24: moved most", map.count(19), 1);
         due("24: read most", map.count(21), 2);
+        map = Tapes.mapOf("buckets 3;kick walk;depth 2;" + STEPS + "has 0 0;has 1 1;has 3 3;");
+        due("24: 0 and 1 moved", map.count(18), 2);
+        map.drop(1);
+        due("24: 0 moved", 10 * map.count(18) + map.count(19), 11);
         due("24: of none", new TwoChoices().count(19) + new TwoChoices().count(21), 0);
     }
 
@@ -907,6 +958,13 @@ public final class PromisesTest {
         due("27: by a rehash", map.would(map.which(4)), 4);
         map = Tapes.mapOf("buckets 1;slots 1;stash 0;has 0 0;");
         due("27: the least that has no entry", map.which(-1), 1);
+        // 10 times a key and 9 is odd, but of 100, of which it is 1009.
+        map = Tapes.mapOf("buckets 2;slots 1;stash 0;kick none;one 10 9;two 10 9;has 0 0;");
+        due("27: 100 has a place", map.would(100), 1);
+        due("27: below 100 alone", map.which(1), NONE);
+        map = Tapes.mapOf("buckets 2;slots 1;stash 0;kick none;one 10 19;two 10 19;has 0 0;");
+        due("27: 99 has a place", map.which(1), 99);
+        due("27: 0, too", new TwoChoices().which(1), 0);
     }
 
     // Promise 28
@@ -966,6 +1024,19 @@ public final class PromisesTest {
         map.put(3, 3);
         due("30: other images", map.image(0) && map.image(1), true);
         due("29: of another image", map.lost(0), 0);
+        Tapes.lay(map, "slots 4;");
+        map.image(1);
+        Tapes.tell(map, "has 0 1;");
+        map.image(2);
+        map.drop(0);
+        due("29: of the key 0, too", map.lost(2), 1);
+        map.again(1);
+        due("31: the bytes that were on the tape", map.text() + map.count(2), 4);
+        map = Tapes.mapOf("seed 6;slots 1;has 1 1;has 2 2;");
+        map.image(2);
+        map.put(3, 3);
+        map.image(0);
+        map.image(1);
         map.again(2);
         due("29: 3 is lost", map.lost(0), 1);
         due("30: over an old one", map.image(0) && map.lost(0) == 0, true);

@@ -486,6 +486,12 @@ public final class PromisesTest {
         due("8: what SECOND frees", map.drop(4), 14);
         due("8: 16 comes to SECOND", map.find(16, 0), 1);
         due("8: puts are not counted", map.count(14), 6);
+        map = Tapes.mapOf(STEPS + "has 0 0;has 1 1;");
+        map.drop(0);
+        due("8: it is gone when all is laid anew", map.rehash(1, 1, 1, 0) && map.count(0) == 1, true);
+        map.drop(1);
+        due("8: the last one, too", map.rehash(1, 0, 1, 1) && map.count(0) == 0, true);
+        due("8: nothing is there", map.count(5) + map.filled(0), 8);
     }
 
     // Promise 9
@@ -748,8 +754,12 @@ public final class PromisesTest {
                 due("19: part(" + row[0] + ", " + what + ")", map.part(row[0], what), row[what + 1]);
             }
         }
-        due("19: parts", map.count(23), 4);
-        due("19: tangled", map.count(24), 1);
+        due("24: tangled", new TwoChoices().count(24) + map.count(24), 1);
+        due("24: parts", map.count(23), 4);
+        map.drop(12);
+        due("24: no longer tangled", map.count(24), 0);
+        map.put(12, 2);
+        due("24: again", map.count(24), 1);
         map.put(9, 9);
         due("19: a ring", map.part(4, 3), 1);
         due("19: no longer tangled alone", map.count(24), 1);

@@ -18,6 +18,7 @@ public final class PromisesTest {
         test.tape();
         test.texts();
         test.faults();
+        test.tapeEnds();
         test.textKeepsAllElse();
         test.puts();
         test.chains();
@@ -48,6 +49,7 @@ public final class PromisesTest {
         test.restlessOnes();
         test.whichOnes();
         test.trieds();
+        test.triedMoves();
         test.images();
         test.checks.end();
     }
@@ -214,6 +216,41 @@ public final class PromisesTest {
         map.text();
         due("5: of the latest text()", map.fault(0), 0);
         due("5: its place", map.fault(1), NONE);
+    }
+
+    /** What was cut off by end() does not count, and a tape may be full to its last byte. */
+    private void tapeEnds() {
+        cutFault("full testing;", 9, 1, 9);
+        cutFault("slots 23;", 7, 1, 7);
+        cutFault("slots 2;", 7, 1, 7);
+        cutFault("slots 2;x", 8, 0, NONE);
+        cutFault("slots 2;   x", 10, 0, NONE);
+        cutFault("stash 12345;", 10, 1, 10);
+        fault("z".repeat(400), 1, 0);
+        fault("9".repeat(400), 1, 0);
+        fault(" ".repeat(400), 0, NONE);
+        fault(" ".repeat(396) + "slot", 1, 396);
+        fault(" ".repeat(395) + "slots", 1, 400);
+        fault(" ".repeat(393) + "slots 2", 1, 400);
+        fault(" ".repeat(392) + "slots 2;", 0, NONE);
+        fault("has0 0;".repeat(57), 3, 10);
+        fault("has0 0;".repeat(57) + "x", 1, 399);
+        StringBuilder most = new StringBuilder("buckets 16;slots 4;");
+        for (int key = 0; key < 48; key++) {
+            most.append("has").append(key).append(' ').append(key % 10).append(';');
+        }
+        TwoChoices map = Tapes.mapOf(most.toString());
+        due("4: 48 of has", map.count(0), 48);
+        due("4: the last one's value", map.get(47), 7);
+    }
+
+    private void cutFault(String bytes, int n, int fault, int place) {
+        TwoChoices map = new TwoChoices();
+        Tapes.lay(map, bytes);
+        map.end(n);
+        map.text();
+        due("5: fault(0) of " + n + " of " + bytes, map.fault(0), fault);
+        due("5: fault(1) of " + n + " of " + bytes, map.fault(1), place);
     }
 
     // Promise 4
@@ -995,6 +1032,20 @@ public final class PromisesTest {
         due("28: n 0", map.tried(1, 0, 0), NONE);
         due("28: n 13", map.tried(1, 13, 0), NONE);
         due("28: n least", map.tried(1, LEAST, 0), NONE);
+    }
+
+    // Promise 28: what has moved and is in the last place of the stash is tried with its moves
+    private void triedMoves() {
+        TwoChoices map = Tapes.mapOf("buckets 5;stash 4;" + STEPS + "has 2 0;has 3 0;has 7 0;has 0 0;has 1 0;");
+        due("6: 3 moved for 7", 10 * map.find(3, 0) + map.find(3, 4), 41);
+        due("10: all into bucket 0 and the stash", map.rehash(5, 0, 5, 0), true);
+        due("14: 3 came last", 10 * map.find(3, 1) + map.find(3, 4), 31);
+        int seed = 0;
+        while (drawn(seed, 1, 4) != 0 || drawn(seed, 2, 1000) < 10) {
+            seed++;
+        }
+        due("28: a drop of none", map.tried(seed, 1, 18), 1);
+        due("28: nothing moved", map.count(18), 1);
     }
 
     // Promises 29, 30, 31

@@ -193,7 +193,8 @@ public final class TwoChoices {
             case 3:
                 return table.moved[i];
             case 4:
-                return bucket == STASH_NUMBER ? table.seconds[i] : table.otherOf(i, bucket);
+                // One in the stash is asked as if it were in FIRST, so that SECOND is its other one.
+                return table.otherOf(i, bucket == STASH_NUMBER ? table.firsts[i] : bucket);
             default:
                 return NONE;
         }

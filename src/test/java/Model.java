@@ -619,7 +619,8 @@ final class Model {
             case 3:
                 return e.moved;
             case 4:
-                return bucket == 100 ? now.second(e.key) : now.other(e.key, bucket);
+                boolean same = now.first(e.key) == now.second(e.key);
+                return bucket == 100 && !same ? now.second(e.key) : now.other(e.key, bucket);
             default:
                 return NONE;
         }

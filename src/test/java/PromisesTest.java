@@ -734,7 +734,23 @@ public final class PromisesTest {
         }
         map = Tapes.mapOf(SAME + "has 1 1;has 5 5;");
         due("15: there is no other", map.at(1, 0, 4), NONE);
-        due("15: of one in the stash: SECOND", map.at(100, 0, 4), 1);
+        due("15: nor of one in the stash", map.at(100, 0, 4), NONE);
+        due("15: which is there", map.at(100, 0, 0), 5);
+        othersInStash();
+    }
+
+    // Promise 15, of the stash: keys of one bucket (202, 206, 210) and of two (2: 3 and 0).
+    private void othersInStash() {
+        TwoChoices map = new TwoChoices();
+        due("15: put(202)", map.put(202, 0), 1);
+        due("15: put(206)", map.put(206, 0), 1);
+        due("15: put(210)", map.put(210, 0), 3);
+        due("15: FIRST and SECOND are the same", map.at(100, 0, 4), NONE);
+        map = Tapes.mapOf("kick none;slots 1;has 202 0;has 10 0;has 210 0;has 2 0;");
+        due("15: none of the first in the stash", map.at(100, 0, 4), NONE);
+        due("15: the second one's is SECOND", map.at(100, 1, 4), map.hash(2, true));
+        due("15: the second one's key", map.at(100, 1, 0), 2);
+        due("15: there is no third one", map.at(100, 2, 4), NONE);
     }
 
     // Promise 16

@@ -39,6 +39,7 @@ public final class AskEdgesTest {
         chainNone();
         chainAsIfFull();
         chainWhateverDepthAndKick();
+        chainOneAfterAnother();
         wouldEach();
         wouldNoKey();
         wouldChangesNothing();
@@ -67,6 +68,9 @@ public final class AskEdgesTest {
         countAnotherWhat();
         countOfNone();
         countPlaces();
+        countMoved();
+        countRead();
+        countTangledAlone();
         filledEach();
         filledNoSuchNumber();
         restlessNone();
@@ -85,6 +89,7 @@ public final class AskEdgesTest {
         imageOfThree();
         againNoneSuch();
         againAllThatIs();
+        againOfAFullStash();
         againKeepsImages();
     }
 
@@ -212,6 +217,26 @@ public final class AskEdgesTest {
         map.drop(first[0]);
         due("14: and of FIRST", map.find(second[1], 5), 2);
         due("14: of FIRST alone", map.find(first[1], 5), 1);
+        findReadsNoOtherBuckets();
+    }
+
+    /** Those in BUCKETS between FIRST and SECOND are not read, nor if SECOND is ahead of FIRST. */
+    private void findReadsNoOtherBuckets() {
+        Pairs pairs = new Pairs(3);
+        TwoChoices map = Tapes.mapOf("buckets 3;slots 1;stash 0;kick none;" + Pairs.TEXT);
+        map.put(pairs.key(0, 0), 0);
+        int between = pairs.key(1, 1);
+        map.put(between, 0);
+        int key = pairs.key(0, 2);
+        map.put(key, 0);
+        due("14: of FIRST 0 and SECOND 2", map.find(key, 5), 2);
+        due("14: of FIRST alone", map.find(between, 5), 1);
+        map = Tapes.mapOf("buckets 3;slots 1;stash 0;kick none;" + Pairs.TEXT);
+        map.put(pairs.key(2, 2), 0);
+        map.put(pairs.key(1, 1), 0);
+        key = pairs.key(2, 0);
+        map.put(key, 0);
+        due("14: of FIRST 2 and SECOND 0", map.find(key, 5), 2);
     }
 
     // Promise 15: "NONE: there is none such, another what"
@@ -356,6 +381,19 @@ public final class AskEdgesTest {
         map.put(pairs.key(15, 15), 0);
         map.put(pairs.key(15, 3), 0);
         due("17: the last place of the last bucket", map.chain(pairs.key(15, 2), 0), 153);
+    }
+
+    // Promise 17: a CHAIN starts from FIRST and SECOND of the KEY asked for, not from those asked for before
+    private void chainOneAfterAnother() {
+        Pairs pairs = new Pairs(4);
+        TwoChoices map = Tapes.mapOf("buckets 4;slots 1;stash 0;" + Pairs.TEXT);
+        map.put(pairs.key(0, 0), 0);
+        map.put(pairs.key(1, 2), 0);
+        map.put(pairs.key(3, 3), 0);
+        due("17: by SECOND", map.chain(pairs.key(0, 1), NONE), 1);
+        due("17: FIRST and SECOND are the same", map.chain(pairs.key(0, 0), NONE), -2);
+        due("17: by FIRST", map.chain(pairs.key(1, 0), 0), 10);
+        due("17: by neither", map.chain(pairs.key(0, 3), NONE), -2);
     }
 
     // Promise 18: "What put() would answer (-1: REFUSED)": each answer there is
@@ -593,8 +631,9 @@ public final class AskEdgesTest {
         due("22: 2", mapWith(text, new int[] {7, 8}).least(0), 2);
         int[] apartBy32 = {975, 101, 408, 665, 740, 191, 854, 3, 91, 437, 626, 977};
         due("22: 32", mapWith(text, apartBy32).least(0), 32);
-        int[] apartLater = {108, 152, 395, 628, 927, 719, 206, 171, 533, 263, 426, 761, 909};
-        TwoChoices map = mapWith(text, apartLater);
+        // By 33 these would be apart, by no fewer.
+        int[] apartBy33 = {816, 376, 880, 302, 37, 443, 968, 93, 213, 348, 525, 625, 371};
+        TwoChoices map = mapWith(text, apartBy33);
         String before = Seen.all(map);
         due("22: none up to 32", map.least(0), NONE);
         same("22: nothing changes", Seen.all(map), before);
@@ -620,6 +659,9 @@ public final class AskEdgesTest {
         String before = Seen.all(map);
         due("22: 40", map.least(2), 40);
         same("22: nothing changes", Seen.all(map), before);
+        // From the SEED 41 it would do, from none before.
+        int[] seed41 = {819, 669, 289, 307, 696, 238, 851, 497, 910};
+        due("22: not 41", mapWith("buckets 9;slots 1;stash 4;kick none;", seed41).least(2), NONE);
         map = Tapes.mapOf("buckets 1;slots 1;stash 1;has 0 0;has 1 1;");
         due("22: none", map.least(2), NONE);
     }
@@ -697,6 +739,50 @@ public final class AskEdgesTest {
         due("24: 68 all the same", map.count(0), 68);
     }
 
+    // Promise 24: "18: MOVED of all ENTRIES, 19: the greatest MOVED": of those that are, the KEY 0 in the first place, too
+    private void countMoved() {
+        TwoChoices map = Tapes.mapOf("buckets 2;slots 1;stash 1;" + SAME + "has 2 0;has 0 0;");
+        due("24: none MOVED", 10 * map.count(18) + map.count(19), 0);
+        map.drop(2);
+        due("24: 0 is in the first place", map.at(0, 0, 0), 0);
+        due("24: it MOVED", 10 * map.count(18) + map.count(19), 11);
+        map.put(1, 0);
+        due("24: of both", 10 * map.count(18) + map.count(19), 11);
+        map.drop(0);
+        due("24: it is gone, and so is what it MOVED", 10 * map.count(18) + map.count(19), 0);
+    }
+
+    // Promise 24: "21: the greatest READ of any ENTRY": the KEY 0 in the first place, too
+    private void countRead() {
+        // FIRST and SECOND are, of 0: 1, 0; of 1: 0, 1; of 2: 1, 0.
+        TwoChoices map = Tapes.mapOf("buckets 2;slots 1;stash 1;kick none;one 1 1;two 1 0;has 2 0;has 0 0;");
+        due("24: 0 is in the first place", map.at(0, 0, 0), 0);
+        due("24: two are READ for it", map.count(21), 2);
+        map.drop(2);
+        due("24: of those that are", map.count(21), 2);
+        map.put(2, 0);
+        due("24: into the STASH", map.put(4, 0), 3);
+        due("24: three are READ", map.count(21), 3);
+        map.drop(4);
+        map.drop(0);
+        due("24: one is READ", map.count(21), 1);
+        map.drop(2);
+        due("24: none", map.count(21), 0);
+    }
+
+    // Promise 24: "23: PARTS, 24: those that are TANGLED", each asked for by itself
+    private void countTangledAlone() {
+        TwoChoices map = Tapes.mapOf("buckets 2;slots 1;stash 2;" + SAME + "has 0 0;has 2 0;");
+        due("24: one TANGLED", map.count(24), 1);
+        map.put(1, 0);
+        due("24: no other", map.count(24), 1);
+        map.put(3, 0);
+        due("24: two TANGLED", map.count(24), 2);
+        map.drop(0);
+        due("24: one again", map.count(24), 1);
+        due("24: two PARTS", map.count(23), 2);
+    }
+
     // Promise 25: "How many BUCKETS have so many ENTRIES, 0 .. 4"
     private void filledEach() {
         TwoChoices map = Tapes.mapOf("buckets 16;slots 4;stash 4;kick none;" + SAME);
@@ -743,6 +829,7 @@ public final class AskEdgesTest {
         map.drop(2);
         due("26: 66 came, too", map.restless(), 66);
         due("26: both MOVED 1", 10 * map.find(66, 4) + map.find(67, 4), 11);
+        due("26: not the first BORN", Tapes.mapOf("has 9 0;has 4 0;has 7 0;").restless(), 4);
     }
 
     // Promise 27: "-1 or 1 .. 5"; "NONE: none"
@@ -942,6 +1029,27 @@ public final class AskEdgesTest {
         due("31: the tape", map.text() == 0 && map.count(2) == 3, true);
         due("31: once more", map.again(0), true);
         same("31: all that is, once more", Seen.all(map), before);
+    }
+
+    // The same of as many ENTRIES as there may be, the last of the STASH with what it MOVED
+    private void againOfAFullStash() {
+        TwoChoices map = Tapes.mapOf("buckets 5;slots 1;stash 4;one 1 0;two 1 1;has 2 0;has 3 0;has 7 0;has 0 0;has 1 5;");
+        due("31: 3 MOVED", map.find(3, 4), 1);
+        due("31: all but one into the STASH", map.rehash(5, 0, 5, 0), true);
+        due("31: 3 is the last of it", map.at(100, 3, 0), 3);
+        due("31: what it MOVED", map.at(100, 3, 3), 1);
+        TwoChoices[] maps = {map, full()};
+        for (TwoChoices each : maps) {
+            each.image(1);
+            String before = Seen.all(each);
+            Tapes.tell(each, "buckets 5;slots 1;stash 4;kick none;one 1 1;two 1 2;");
+            for (int key = 100; key < 130; key += 5) {
+                each.put(key, 1);
+            }
+            due("31: others fill the STASH", each.at(100, 3, 0), 125);
+            due("31: again(1)", each.again(1), true);
+            same("31: all that is", Seen.all(each), before);
+        }
     }
 
     // again() gives back what an image has; the images stay as they are

@@ -53,9 +53,13 @@ public final class MapEdgesTest {
         chainLesserPlace();
         chainNextByItsPlace();
         chainIntoTheNextOnesPlace();
+        chainOfTheKeyNought();
+        chainByFirstOrSecond();
+        chainBackToFirst();
         walkOfDepth();
         walkTakesTheNewOneOut();
         walkInTheSameBucket();
+        walkBackToFirst();
         walkInVainThenStash();
     }
 
@@ -77,6 +81,8 @@ public final class MapEdgesTest {
         peelSlotsOrFewer();
         peelLeastBucketAgain();
         peelByKeysRising();
+        peelEveryBucket();
+        peelTwiceWithACore();
         peelNotSoMany();
     }
 
@@ -86,6 +92,7 @@ public final class MapEdgesTest {
         dropLetsTheFirstIn();
         dropLetsOneInBySecond();
         dropLetsNoneInElsewhere();
+        dropIsForGood();
         settleOfDepth();
         settleWhateverKickIs();
         settleOfAnEmptyStash();
@@ -280,6 +287,8 @@ public final class MapEdgesTest {
         reads("in the STASH, two buckets", map, further, 3);
         due("the greatest READ", map.count(21), 3);
         map.drop(stashed);
+        due("it is the first of the STASH now", map.find(further, 1), 0);
+        reads("the first of the STASH, two buckets", map, further, 3);
         map.drop(further);
         reads("the STASH is empty again", map, other, 2);
     }
@@ -590,6 +599,59 @@ public final class MapEdgesTest {
         due("6: the other hole stays", map.at(2, 3, 0), NONE);
     }
 
+    // The KEY 0 is an ENTRY of a CHAIN like any other
+    private void chainOfTheKeyNought() {
+        TwoChoices map = Tapes.mapOf("buckets 3;slots 1;stash 0;one 1 0;two 1 1;has 0 7;has 1 0;");
+        map.drop(1);
+        map.put(2, 0);
+        // FIRST and SECOND are, of 0: 0, 1; of 2: 2, 0; of 5: 2, 0.
+        due("17: by the KEY 0", map.chain(5, NONE), 1);
+        due("17: in SECOND", map.chain(5, 0), 0);
+        due("6: by it", map.put(5, 0), 2);
+        due("6: 0 MOVED", 10 * map.find(0, 0) + map.find(0, 4), 11);
+    }
+
+    // "the first one is in FIRST, or in SECOND": by put(), by test, by settle()
+    private void chainByFirstOrSecond() {
+        String[] texts = {"stash 0;", "stash 0;kick none;full test;", "stash 1;kick none;"};
+        for (String text : texts) {
+            for (int way = 0; way < 2; way++) {
+                Pairs pairs = new Pairs(3);
+                TwoChoices map = Tapes.mapOf("buckets 3;slots 1;" + text + Pairs.TEXT);
+                int first = way == 0 ? pairs.key(0, 2) : pairs.key(0, 0);
+                int second = way == 0 ? pairs.key(1, 1) : pairs.key(1, 2);
+                int key = pairs.key(0, 1);
+                map.put(first, 0);
+                map.put(second, 0);
+                boolean stash = text.startsWith("stash 1");
+                due("6: " + text, map.put(key, 0), stash ? 3 : 2);
+                due("9: " + text, map.settle(), stash ? 1 : 0);
+                due("6: in FIRST, or in SECOND", map.find(key, 0), way);
+                due("6: that which was there", map.find(way == 0 ? first : second, 0), 2);
+                due("6: the other stays", map.find(way == 0 ? second : first, 0), 1 - way);
+            }
+        }
+    }
+
+    // "each one's other BUCKET (of FIRST and SECOND of its KEY the one it is not in)": FIRST of one that is in SECOND
+    private void chainBackToFirst() {
+        Pairs pairs = new Pairs(3);
+        TwoChoices map = Tapes.mapOf("buckets 3;slots 1;stash 0;" + Pairs.TEXT);
+        int gone = pairs.key(0, 0);
+        int there = pairs.key(0, 1);
+        map.put(gone, 0);
+        map.put(there, 0);
+        due("15: it is in SECOND", map.find(there, 0), 1);
+        due("15: its other BUCKET", map.at(1, 0, 4), 0);
+        map.drop(gone);
+        int key = pairs.key(1, 1);
+        due("17: by it", map.chain(key, 0), 10);
+        due("6: by it", map.put(key, 0), 2);
+        due("6: back to FIRST", map.find(there, 0), 0);
+        due("15: its other BUCKET then", map.at(0, 0, 4), 1);
+        due("7: it is found", map.get(there), 0);
+    }
+
     // "DEPTH times at most"; "if that has an empty place, it comes into the least one: all is well"
     private void walkOfDepth() {
         for (int many = 1; many <= 15; many++) {
@@ -628,9 +690,11 @@ public final class MapEdgesTest {
             } else {
                 due("6: by then", map.put(key, 0), 2);
                 int[] keys = {f, e, key, g};
+                int[] others = {1, 0, 0, 2};
                 for (int b = 0; b < 4; b++) {
                     due("6: in bucket " + b, map.at(b, 0, 0), keys[b]);
                     due("6: MOVED in bucket " + b, map.at(b, 0, 3), 1);
+                    due("15: the other one of bucket " + b, map.at(b, 0, 4), others[b]);
                 }
             }
         }
@@ -645,6 +709,33 @@ public final class MapEdgesTest {
             map.put(pairs.key(0, 0), 0);
             refusedPut("6: in one bucket", map, pairs.key(0, 0), Drawn.seedAfter(5, depth));
         }
+    }
+
+    // "its BUCKET the other one": FIRST of one that was in SECOND; "the least one" of two empty places
+    private void walkBackToFirst() {
+        Pairs pairs = new Pairs(3);
+        TwoChoices map = Tapes.mapOf("buckets 3;slots 1;stash 0;kick walk;depth 1;" + Pairs.TEXT);
+        int gone = pairs.key(0, 0);
+        int there = pairs.key(0, 1);
+        map.put(gone, 0);
+        map.put(there, 0);
+        map.drop(gone);
+        int key = pairs.key(1, 1);
+        due("6: by a walk of one", map.put(key, 0), 2);
+        due("6: back to FIRST", map.find(there, 0), 0);
+        due("6: the new one", map.find(key, 0), 1);
+        map = Tapes.mapOf("buckets 3;slots 4;stash 0;kick walk;depth 1;" + Pairs.TEXT);
+        int[] holes = new int[4];
+        for (int place = 0; place < 4; place++) {
+            map.put(pairs.key(0, 2), 0);
+            holes[place] = pairs.key(2, 2);
+            map.put(holes[place], 0);
+        }
+        map.drop(holes[3]);
+        map.drop(holes[1]);
+        due("6: by a walk of one", map.put(pairs.key(0, 0), 0), 2);
+        due("6: into the least empty place", map.at(2, 1, 3), 1);
+        due("6: not into the other", map.at(2, 3, 3), NONE);
     }
 
     // "If not by then, all is as it was, but for the SEED", and (c) follows
@@ -688,14 +779,24 @@ public final class MapEdgesTest {
         }
     }
 
-    // "If none does, it is REFUSED"
+    /** The second one put: its VALUE, BORN, MOVED. */
+    private void newOne(TwoChoices map, int key, int value) {
+        due("6: its VALUE", map.get(key), value);
+        due("6: its BORN", map.find(key, 3), 2);
+        due("6: its MOVED", map.find(key, 4), 0);
+    }
+
+    // "If none does, it is REFUSED", and what its tries moved and chained is as it was
     private void rehashInVain() {
-        for (int seed = 0; seed < 40; seed++) {
+        String[] kicks = {"none", "shortest"};
+        for (String kick : kicks) {
             for (int tries = 0; tries <= 4; tries++) {
-                TwoChoices map = Tapes.mapOf("buckets 2;stash 0;kick none;full rehash;tries " + tries + ";seed " + seed + ";"
-                        + SAME + "has 0 0;has 1 1;");
-                // Three keys never are in two places.
-                refusedPut("6: " + tries + " tries in vain", map, 4, Drawn.seedAfter(seed, 4 * tries));
+                for (int seed = 0; seed < 40; seed++) {
+                    TwoChoices map = Tapes.mapOf("buckets 2;stash 0;full rehash;kick " + kick + ";tries " + tries + ";seed "
+                            + seed + ";" + SAME + "has 0 0;has 1 1;");
+                    // Three keys never are in two places.
+                    refusedPut("6: " + tries + " tries in vain", map, 4, Drawn.seedAfter(seed, 4 * tries));
+                }
             }
         }
     }
@@ -725,6 +826,7 @@ public final class MapEdgesTest {
                     due("6: the SEED", map.count(25), Drawn.seedAfter(seed, 4 * needs));
                     due("6: changed once", map.count(16), 1);
                     places("6: laid by try " + needs, map, keys, where);
+                    newOne(map, 2, 2);
                     for (int k = 0; k < 4; k++) {
                         due("24: HASHES", map.count(10 + k), hashes[k]);
                     }
@@ -783,7 +885,8 @@ public final class MapEdgesTest {
         for (int buckets = 1; buckets <= 16; buckets++) {
             TwoChoices map = Tapes.mapOf("stash 0;kick none;full grow;" + SAME + "has 0 0;buckets " + buckets + ";seed 7;");
             if (buckets <= 8) {
-                due("6: by growth of " + buckets, map.put(buckets, 1), 5);
+                due("6: by growth of " + buckets, map.put(buckets, 9), 5);
+                newOne(map, buckets, 9);
                 due("6: twice as many", map.count(1), 2 * buckets);
                 due("6: doubled once", map.count(17), 1);
                 due("6: laid by the same HASHES", map.find(buckets, 0), buckets);
@@ -968,6 +1071,31 @@ public final class MapEdgesTest {
         }
     }
 
+    // "as long as there is a BUCKET": up to all of them
+    private void peelEveryBucket() {
+        for (int buckets = 1; buckets <= 16; buckets++) {
+            TwoChoices map = Tapes.mapOf("stash 0;buckets " + buckets + ";" + SAME);
+            for (int key = buckets - 1; key >= 0; key--) {
+                map.put(key, 0);
+            }
+            due("12: all of " + buckets, map.peel(NONE, 0), buckets);
+            for (int k = 0; k < buckets; k++) {
+                due("12: from the least on", 100 * map.peel(k, 0) + map.peel(k, 1), 101 * k);
+            }
+        }
+    }
+
+    // "CORE: those that are left then": they are not PEELED, however often it is asked
+    private void peelTwiceWithACore() {
+        TwoChoices map = Tapes.mapOf("buckets 2;stash 2;" + SAME + "has 0 0;has 2 0;has 1 0;");
+        for (int turn = 0; turn < 3; turn++) {
+            due("12: one is PEELED", map.peel(NONE, 0), 1);
+            due("12: that of bucket 1", 10 * map.peel(0, 0) + map.peel(0, 1), 11);
+        }
+        map.drop(2);
+        due("12: no CORE is left", map.peel(NONE, 0), 2);
+    }
+
     // Promise 12: "-2: not so many, another what"
     private void peelNotSoMany() {
         TwoChoices map = Tapes.mapOf("has 1 0;has 2 0;");
@@ -1069,6 +1197,21 @@ public final class MapEdgesTest {
         due("8: it stays", map.find(key, 0), 100);
         due("17: there is a CHAIN", map.chain(key, NONE), 1);
         due("9: settle() takes it", map.settle(), 1);
+    }
+
+    // "its ENTRY goes": it does not come back when all are laid anew
+    private void dropIsForGood() {
+        int[] keys = {0, 1, 4};
+        for (int key : keys) {
+            TwoChoices map = Tapes.mapOf("buckets 4;stash 1;full grow;" + SAME + "has 0 0;has 1 0;has 4 0;");
+            map.drop(key);
+            due("8: two are left", map.count(0), 2);
+            due("10: by hand", map.rehash(1, 1, 1, 1), true);
+            due("8: two all the same", map.count(0), 2);
+            due("11: a BATCH", map.batch(), true);
+            due("8: two all the same", map.count(0), 2);
+            due("8: none of it", map.find(key, 0), NONE);
+        }
     }
 
     // "or else by a CHAIN of DEPTH or fewer"

@@ -330,6 +330,11 @@ public final class TextEdgesTest {
         fault("slots 2;#", 1, 8);
         fault("slots 2;#slots 2;#", 1, 8);
         fault("one 0 x;", 1, 6);
+        String[] cut = {"slots", "one", "one 1", "two", "two 1", "has", "has 1", "kick", "full"};
+        for (String line : cut) {
+            fault(line + ";x", 1, line.length());
+            fault(line + ";slots 9;", 1, line.length());
+        }
     }
 
     // "with places (a token's first byte; the end's)"
@@ -516,6 +521,7 @@ public final class TextEdgesTest {
         due("4: REFUSED", map.put(24, 0), NONE);
         map.rehash(1, 1, 1, 2);
         map.get(0);
+        map.tried(1, 12, 0);
         int[] tallies = {14, 15, 16, 17, 18, 19, 20, 21, 22};
         for (int what : tallies) {
             due("4: there is a tally " + what, map.count(what) > 0 ? 1 : 0, 1);
